@@ -222,19 +222,20 @@ public final class IntervalTree {
     }
 
     // ---- queries ----
+    // The chain of nodes ascends by low ends, so a walk along it can stop where the low ends get too great.
 
     public int stabCount(int point) {
         int count = 0;
-        for (Node n = tree.firstLive(); n != null; n = n.liveAfter()) {
-            count += n.overlaps(point, point) ? 1 : 0;
+        for (Node n = tree.firstLive(); n != null && n.low <= point; n = n.liveAfter()) {
+            count += n.high >= point ? 1 : 0;
         }
         return count;
     }
 
     public int stabWeight(int point) {
         int sum = 0;
-        for (Node n = tree.firstLive(); n != null; n = n.liveAfter()) {
-            sum += n.overlaps(point, point) ? n.weight : 0;
+        for (Node n = tree.firstLive(); n != null && n.low <= point; n = n.liveAfter()) {
+            sum += n.high >= point ? n.weight : 0;
         }
         return sum;
     }
@@ -256,8 +257,8 @@ public final class IntervalTree {
 
     public int firstOverlap(int from, int to) throws IllegalArgumentException {
         checkRange(from, to);
-        for (Node n = tree.firstLive(); n != null; n = n.liveAfter()) {
-            if (n.overlaps(from, to)) {
+        for (Node n = tree.firstLive(); n != null && n.low <= to; n = n.liveAfter()) {
+            if (n.high >= from) {
                 return n.id;
             }
         }
@@ -386,14 +387,25 @@ public final class IntervalTree {
     }
 
     public int piercingPoint(int i) throws IndexOutOfBoundsException {
-        int position = 0;
-        for (Node n = tree.firstLive(); n != null; n = firstLiveBeyond(n, pierce(n))) {
-            if (position == i) {
-                return pierce(n);
+        int begun = 0;
+        int point = 0;
+        for (Node n = tree.firstLive(); n != null; n = n.liveAfter()) {
+            if (begun > 0 && n.low <= point) {
+                // Nothing before n begins behind the point, so the point may still be the high end of n.
+                point = Math.min(point, n.high);
+                continue;
             }
-            position++;
+            // All from n on begin behind the point, which is therefore settled.
+            if (begun > 0 && begun - 1 == i) {
+                return point;
+            }
+            begun++;
+            point = n.high;
         }
-        throw new IndexOutOfBoundsException("the sequence has no such position");
+        if (begun == 0 || begun - 1 != i) {
+            throw new IndexOutOfBoundsException("the sequence has no such position");
+        }
+        return point;
     }
 
     // ---- filters ----
@@ -513,7 +525,9 @@ public final class IntervalTree {
         }
         tree = saved.copy();
         for (Cursor c : cursors) {
-            c.open = false;
+            if (c != null) {
+                c.open = false;
+            }
         }
         return tree.live;
     }
@@ -555,10 +569,11 @@ public final class IntervalTree {
     }
 
     private Cursor existingCursor(int cursor) {
-        if (cursor < 0 || cursor >= cursors.length) {
+        Cursor c = cursor >= 0 && cursor < cursors.length ? cursors[cursor] : null;
+        if (c == null) {
             throw new IllegalArgumentException("the cursor does not exist");
         }
-        return cursors[cursor];
+        return c;
     }
 
     private Cursor openCursor(int cursor) {
@@ -633,8 +648,8 @@ public final class IntervalTree {
     /** The first of the ranking if previous is null, otherwise the one directly behind previous, or null. */
     private Node heaviestBehind(Node previous, int from, int to) {
         Node best = null;
-        for (Node n = tree.firstLive(); n != null; n = n.liveAfter()) {
-            boolean candidate = n.overlaps(from, to) && (previous == null || previous.outranks(n));
+        for (Node n = tree.firstLive(); n != null && n.low <= to; n = n.liveAfter()) {
+            boolean candidate = n.high >= from && (previous == null || previous.outranks(n));
             if (candidate && (best == null || n.outranks(best))) {
                 best = n;
             }
@@ -654,26 +669,6 @@ public final class IntervalTree {
 
     private static int bestFrom(Node node) {
         return node == null ? 0 : node.best;
-    }
-
-    /**
-     * The least high end of the live intervals from a node of the chain on. The chain ascends by low ends, so the
-     * search can stop at the first interval that begins behind the least high end so far.
-     */
-    private static int pierce(Node start) {
-        int least = start.high;
-        for (Node n = start; n != null && n.low <= least; n = n.liveAfter()) {
-            least = Math.min(least, n.high);
-        }
-        return least;
-    }
-
-    private static Node firstLiveBeyond(Node start, int point) {
-        Node n = start;
-        while (n != null && n.low <= point) {
-            n = n.liveAfter();
-        }
-        return n;
     }
 
     // ---- parts of filters and cursors ----
@@ -779,7 +774,7 @@ public final class IntervalTree {
 
     private boolean overlapsAnother(Node node) {
         for (Node n = tree.firstLive(); n != null && n.low <= node.high; n = n.liveAfter()) {
-            if (n != node && n.overlaps(node.low, node.high)) {
+            if (n != node && n.high >= node.low) {
                 return true;
             }
         }
@@ -838,10 +833,6 @@ public final class IntervalTree {
                 return high > otherHigh;
             }
             return id > otherId;
-        }
-
-        boolean overlaps(int from, int to) {
-            return low <= to && high >= from;
         }
 
         boolean outranks(Node other) {

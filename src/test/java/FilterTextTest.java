@@ -161,6 +161,8 @@ public final class FilterTextTest {
         c.due("empty afterwards", -100, () -> x.parseFilter());
         Checks.feed(x, "w>>");
         c.due("parse of an error", -102, () -> x.parseFilter());
+        Checks.feed(x, "w>");
+        c.due("bytes of an earlier text do not count", -102, () -> x.parseFilter());
         c.due("empty after an error", 1, () -> x.feed('('));
         for (int i = 2; i <= 60; i++) {
             final int n = i;
