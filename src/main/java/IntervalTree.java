@@ -35,6 +35,7 @@ public final class IntervalTree {
     private static final int EITHER = 1;
     private static final int FIRST_ONLY = 2;
 
+    // The operators stand in the order in which they bind, the tightest first: the text reader compares them.
     private static final int STEP_RANGE = 0;
     private static final int STEP_OVERLAPPING = 1;
     private static final int STEP_REFERENCE = 2;
@@ -391,7 +392,7 @@ public final class IntervalTree {
         int point = 0;
         for (Node n = tree.firstLive(); n != null; n = n.liveAfter()) {
             if (begun > 0 && n.low <= point) {
-                // Nothing before n begins behind the point, so the point may still be the high end of n.
+                // n, too, contains none of the points before, and the point is the least high end of all these.
                 point = Math.min(point, n.high);
                 continue;
             }
