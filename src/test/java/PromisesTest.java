@@ -903,7 +903,8 @@ public final class PromisesTest {
         z.rebuild();
         z.load();
         c.due("gone is back in the tree", 0, () -> z.state(0));
-        c.due("parents are back", "1,-1,1,2", () -> z.parent(0) + "," + z.parent(1) + "," + z.parent(2) + "," + z.parent(3));
+        c.due("parents are back", "1,-1,1,2",
+                () -> z.parent(0) + "," + z.parent(1) + "," + z.parent(2) + "," + z.parent(3));
     }
 
     private static void loadClosesCursors() {
