@@ -1322,7 +1322,7 @@ public final class IntervalTree {
             position++;
             references++;
             filter.append(referenceStep(number));
-            endFactor();
+            factorDue = false;
             return true;
         }
 
@@ -1349,7 +1349,7 @@ public final class IntervalTree {
             int from = comparison == '<' ? Integer.MIN_VALUE : comparison == '=' ? number : number + 1;
             int to = comparison == '<' ? number - 1 : comparison == '=' ? number : Integer.MAX_VALUE;
             filter.append(rangeStep(property, from, to));
-            endFactor();
+            factorDue = false;
             return true;
         }
 
@@ -1382,13 +1382,7 @@ public final class IntervalTree {
             if (waiting != null) {
                 waiting = waiting.next;
             }
-            endFactor();
             return true;
-        }
-
-        private void endFactor() {
-            factorDue = false;
-            release(STEP_NOT);
         }
 
         private void await(int kind) {

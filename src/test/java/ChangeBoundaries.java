@@ -254,7 +254,7 @@ final class ChangeBoundaries {
             s.due(count + " points", built(0, count, 0, count), () -> Samples.shape(x));
         }
 
-        s.says("All nodes become black, except that the nodes of the deepest level become red if that level is not full.");
+        s.says("All nodes become black, except that the nodes of the deepest level become red if that level is not");
         String[] shapes = {"0B", "1B(0R,-)", "1B(0B,2B)", "2B(1B(0R,-),3B)", "2B(1B(0R,-),4B(3R,-))",
             "3B(1B(0R,2R),5B(4R,-))", "3B(1B(0B,2B),5B(4B,6B))", "4B(2B(1B(0R,-),3B),6B(5B,7B))"};
         for (int i = 0; i < shapes.length; i++) {
@@ -291,7 +291,7 @@ final class ChangeBoundaries {
     }
 
     private void rebuildsAfterRemovals() {
-        s.says("A rebuild happens when rebuild is called; after a removal, if 100 times the number of removed intervals");
+        s.says("A rebuild happens when rebuild is called; after a removal, if 100 times the number of removed");
         IntervalTree called = Samples.points(2);
         called.rebuild();
         s.due("called", 1, () -> called.rebuildCount());
@@ -434,7 +434,7 @@ final class ChangeBoundaries {
         }
         Sights.unchanged(s, "a refused insertion", () -> Samples.hundred(1), x -> x.insert(0, 0, 1000));
 
-        s.says("Throws `IllegalStateException` if there are 100 nodes and none of their intervals is removed, or if 500");
+        s.says("Throws `IllegalStateException` if there are 100 nodes and none of their intervals is removed, or if");
         IntervalTree x = Samples.points(98);
         s.due("98 nodes", 98, () -> x.insert(5, 5, 0));
         s.due("99 nodes", 99, () -> x.insert(5, 5, 0));
@@ -618,7 +618,7 @@ final class ChangeBoundaries {
 
     private void addWeight() {
         s.in("7");
-        s.says("Adds a number to the weight of each interval in the tree, live or removed, whose low end is in a range");
+        s.says("Adds a number to the weight of each interval in the tree, live or removed, whose low end is in a");
         IntervalTree x = Samples.of(Samples.row(0, 9, 5), Samples.row(1, 9, 999), Samples.row(2, 9, 0),
                 Samples.row(3, 9, 7), Samples.row(2, 2, 1));
         x.remove(2);

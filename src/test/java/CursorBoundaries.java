@@ -38,13 +38,14 @@ final class CursorBoundaries {
             s.illegalState("closed: removeCurrent of " + i, () -> x.removeCurrent(cursor));
             s.due("opened: " + i, 0, () -> x.open(cursor, 0));
         }
-        s.due("each has its own position", "0 0 1 0", () -> x.next(0) + " " + x.next(3) + " " + x.next(3) + " " + x.next(1));
+        s.due("each has its own position", "0 0 1 0",
+                () -> x.next(0) + " " + x.next(3) + " " + x.next(3) + " " + x.next(1));
         s.due("the others stay", "true false", () -> x.hasNext(0) + " " + x.hasNext(3));
         for (int cursor : NO_CURSORS) {
             s.illegalArgument("no cursor " + cursor, () -> x.hasNext(cursor));
         }
 
-        s.says("An open cursor has a filter and a position, which is before all intervals or directly after the key of the");
+        s.says("An open cursor has a filter and a position, which is before all intervals or directly after the key");
         IntervalTree y = Samples.of(Samples.row(-1000, -1000, 0), Samples.row(5, 9, 0), Samples.row(1000, 1000, 0));
         s.due("before all, also the least", 0, () -> y.open(0, 0));
         s.due("a cursor with another filter", 0, () -> y.open(1, 1));
@@ -53,7 +54,7 @@ final class CursorBoundaries {
         y.insert(1000, 1000, 0);
         s.due("directly after it: an equal one with a greater id", 3, () -> y.next(0));
 
-        s.says("The following interval of a cursor is the live interval with the least key after the position that the");
+        s.says("The following interval of a cursor is the live interval with the least key after the position that");
         IntervalTree z = Samples.of(Samples.row(5, 9, 0), Samples.row(5, 7, 0), Samples.row(4, 100, 0),
                 Samples.row(5, 7, 0), Samples.row(6, 6, 0));
         s.due("by keys", "2 2 1 3 0 4", () -> z.open(0, 0) + " " + z.next(0) + " " + z.next(0) + " " + z.next(0)
@@ -312,7 +313,7 @@ final class CursorBoundaries {
             s.illegalArgument("cursor " + cursor, () -> x.removeCurrent(cursor));
         }
 
-        s.says("Throws `IllegalStateException` if the cursor is closed, next has not returned an interval since the cursor");
+        s.says("Throws `IllegalStateException` if the cursor is closed, next has not returned an interval since the");
         s.illegalState("closed", () -> x.removeCurrent(0));
         x.open(0, 0);
         s.illegalState("opened", () -> x.removeCurrent(0));
@@ -369,7 +370,7 @@ final class CursorBoundaries {
 
     private void save() {
         s.in("51");
-        s.says("Saves a copy of all intervals, the tree, the rebuild percentage, the number of inserted intervals and the");
+        s.says("Saves a copy of all intervals, the tree, the rebuild percentage, the number of inserted intervals and");
         broughtBack("insertions", Samples::busy, x -> {
             x.insert(0, 0, 0);
             x.insert(7, 7, 7);

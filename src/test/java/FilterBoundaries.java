@@ -76,7 +76,7 @@ final class FilterBoundaries {
         s.illegalState("the ninth", () -> x.addRangeFilter(0, 0, 0));
         s.illegalArgument("it does not exist", () -> x.matchCount(8));
 
-        s.says("Initially there are three: filter 0 accepts all intervals, filter 1 those whose low end equals their high");
+        s.says("Initially there are three: filter 0 accepts all intervals, filter 1 those whose low end equals their");
         IntervalTree y = six();
         s.due("filter 0", "012345", () -> accepted(y, 0));
         s.due("filter 1", "05", () -> accepted(y, 1));
@@ -150,7 +150,7 @@ final class FilterBoundaries {
         parsed("n=0|&n=0", -104);
         parsed("n=0&|n=0", -104);
 
-        s.says("factor = \"!\" factor, or \"(\" filter \")\", or property comparison number, or \"#\" and the digit of an");
+        s.says("factor = \"!\" factor, or \"(\" filter \")\", or property comparison number, or \"#\" and the digit");
         parsed("!n=0", 3);
         parsed("!!n=0", 3);
         parsed("!".repeat(57) + "n=0", 3);
@@ -191,8 +191,17 @@ final class FilterBoundaries {
 
         s.says("comparison = \"<\", \"=\", \">\"");
         meant("l<0", "01");
+        meant("l<1", "012");
         meant("l=0", "2");
+        meant("l=1", "");
         meant("l>0", "345");
+        meant("l>-1", "2345");
+        meant("w<12", "045");
+        meant("w<13", "01245");
+        meant("w>12", "3");
+        meant("w>11", "123");
+        meant("n>-1", "012345");
+        meant("n<0", "");
         parsed("l;0", -101);
         parsed("l?0", -101);
         parsed("l<=0", -102);
@@ -288,7 +297,7 @@ final class FilterBoundaries {
     }
 
     private void errorPositions() {
-        s.says("The error position of a text is the index of the first byte that cannot continue a correct text, or the");
+        s.says("The error position of a text is the index of the first byte that cannot continue a correct text, or");
         parsed("x", -100);
         parsed("n=0x", -103);
         parsed("n=0|x", -104);
@@ -309,6 +318,26 @@ final class FilterBoundaries {
         parsed("w<1" + "|w<1".repeat(14) + "x", -159);
         parsed("(".repeat(29) + "n=0" + ")".repeat(28), -160);
         parsed("x<1|y", -100);
+        parsed("wn=0", -101);
+        parsed("w(n=0)", -101);
+        parsed("w!n=0", -101);
+        parsed("w#0", -101);
+        parsed("w=n=0", -102);
+        parsed("w=!n=0", -102);
+        parsed("w=(n=0)", -102);
+        parsed("w=#0", -102);
+        parsed("w=-n=0", -103);
+        parsed("w=-#0", -103);
+        parsed("n=0n=0", -103);
+        parsed("n=0#0", -103);
+        parsed("#0n=0", -102);
+        parsed("#0!n=0", -102);
+        parsed("#0(n=0)", -102);
+        parsed("(n=0)n=0", -105);
+        parsed("(n=0)!n=0", -105);
+        parsed("(n=0)#0", -105);
+        parsed("#3#0", -101);
+        parsed("#3&#0", -101);
         s.due("a byte 0", -103, () -> bytes('n', '=', '1', 0));
         s.due("a byte 255", -100, () -> bytes(255));
         s.due("a byte that is a digit but for its eighth bit", -102, () -> bytes('n', '=', '1' + 128));
@@ -324,7 +353,7 @@ final class FilterBoundaries {
     }
 
     private void references() {
-        s.says("A byte after \"#\" that is not the digit of an existing filter is such a byte, and so is a third \"#\"");
+        s.says("A byte after \"#\" that is not the digit of an existing filter is such a byte, and so is a third");
         parsed("#/", -101);
         parsed("#:", -101);
         parsed("#9", -101);
@@ -357,7 +386,7 @@ final class FilterBoundaries {
         x.addWeight(0, 0, 1);
         s.due("weights when it is applied", "01", () -> accepted(x, filter));
 
-        s.says("- `property`: 0 for the low end, 1 for the high end, 2 for the weight, 3 for the high end minus the low");
+        s.says("- `property`: 0 for the low end, 1 for the high end, 2 for the weight, 3 for the high end minus the");
         s.due("low end", "4", () -> ranged(0, 100, 100));
         s.due("high end", "4", () -> ranged(1, 1000, 1000));
         s.due("weight", "3", () -> ranged(2, 999, 999));
@@ -409,7 +438,7 @@ final class FilterBoundaries {
 
     private void heavierFilter() {
         s.in("41");
-        s.says("Adds a filter that accepts the intervals whose weight, when the filter is applied, is greater than the");
+        s.says("Adds a filter that accepts the intervals whose weight, when the filter is applied, is greater than");
         IntervalTree x = six();
         int filter = x.addHeavierFilter(0);
         s.due("greater, not equal", "123", () -> accepted(x, filter));
@@ -462,7 +491,7 @@ final class FilterBoundaries {
         x.insert(-6, -4, 500);
         s.due("when it is applied", "", () -> accepted(x, without));
 
-        s.says("- `kind`: 0: it accepts what both accept; 1: it accepts what at least one of them accepts; 2: it accepts");
+        s.says("- `kind`: 0: it accepts what both accept; 1: it accepts what at least one of them accepts; 2: it");
         s.due("kind 0", "5", () -> combined(0, 1, 2));
         s.due("kind 1", "01245", () -> combined(1, 1, 2));
         s.due("kind 2", "0", () -> combined(2, 1, 2));
@@ -582,7 +611,7 @@ final class FilterBoundaries {
             return Checks.parse(x, "w");
         });
 
-        s.says("Returns the number of the filter, or -100 minus the error position if the text has an error, in which case");
+        s.says("Returns the number of the filter, or -100 minus the error position if the text has an error, in which");
         IntervalTree y = six();
         s.due("the first", 3, () -> Checks.parse(y, "n=0"));
         s.due("an error at 0", -100, () -> Checks.parse(y, ")"));
@@ -594,7 +623,7 @@ final class FilterBoundaries {
         s.due("the second", 4, () -> Checks.parse(y, "!n=0"));
         s.due("the first is as it was", "05", () -> accepted(y, 3));
 
-        s.says("Throws `IllegalStateException` if there are 8 filters, whatever the text is, in which case the buffer is");
+        s.says("Throws `IllegalStateException` if there are 8 filters, whatever the text is, in which case the buffer");
         IntervalTree z = Samples.busy();
         z.feed('1');
         z.addRangeFilter(0, 0, 0);

@@ -387,6 +387,8 @@ final class QueryBoundaries {
         s.due("behind all", 3, () -> x.nearest(31));
         s.due("the nearer end, not the low end", 0,
                 () -> Samples.of(Samples.row(0, 10, 0), Samples.row(13, 13, 0)).nearest(11));
+        s.due("the nearer end, not the high end", 1,
+                () -> Samples.of(Samples.row(-5, -5, 0), Samples.row(10, 100, 0)).nearest(3));
 
         s.says("Among several, it is the one with the least key.");
         s.due("as near on both sides", 2, () -> x.nearest(25));
@@ -553,14 +555,14 @@ final class QueryBoundaries {
 
     private void scheduled() {
         s.in("38");
-        s.says("Returns an interval of a best schedule, which is a set as described for scheduleWeight with the greatest");
+        s.says("Returns an interval of a best schedule, which is a set as described for scheduleWeight with the");
         s.due("two of four", "1 3 " + END, () -> schedule(some()));
         s.due("a common end", "1 " + END,
                 () -> schedule(Samples.of(Samples.row(0, 3, 5), Samples.row(3, 6, 7))));
         s.due("side by side", "0 1 " + END,
                 () -> schedule(Samples.of(Samples.row(0, 3, 5), Samples.row(4, 6, 7))));
 
-        s.says("It is determined by going through all intervals in ascending order of their keys, beginning with the empty");
+        s.says("It is determined by going through all intervals in ascending order of their keys, beginning with the");
         s.due("by keys, not by ids", "2 1 0 " + END,
                 () -> schedule(Samples.of(Samples.row(8, 9, 1), Samples.row(4, 5, 1), Samples.row(0, 1, 1))));
         s.due("equal keys but for the ids", "1 " + END,

@@ -111,7 +111,7 @@ final class TreeBoundaries {
     }
 
     private void recolouring() {
-        s.says("If the other child of g is red, p and that child become black, g becomes red, and n is g from then on.");
+        s.says("If the other child of g is red, p and that child become black, g becomes red, and n is g from then");
         s.due("n left of the left", "3B(2B(1R,-),4B)", () -> shapeOf(3, 2, 4, 1));
         s.due("n right of the left", "4B(2B(-,3R),5B)", () -> shapeOf(4, 2, 5, 3));
         s.due("n left of the right", "2B(1B,4B(3R,-))", () -> shapeOf(2, 1, 4, 3));
@@ -513,7 +513,7 @@ final class TreeBoundaries {
     }
 
     private void digestBytes() {
-        s.says("For each node, four bytes are absorbed: id modulo 256, id divided by 256 and rounded down, 1 if the node");
+        s.says("For each node, four bytes are absorbed: id modulo 256, id divided by 256 and rounded down, 1 if the");
         // Ids above 255 in less than 512 calls: the tree is emptied twice, 100 removals at a time.
         IntervalTree x = Samples.hundred(100);
         for (int id = 100; id < 200; id++) {
@@ -553,7 +553,7 @@ final class TreeBoundaries {
         // The four zero bytes of a single black node with the id 0, whose usual CRC-32 is 0x2144DF1C.
         s.due("four zero bytes", ~0x2144DF1C, () -> Samples.points(1).digest());
 
-        s.says("The table entry for i is obtained from i by 8 steps, each of which replaces x by (x >>> 1) ^ 0xEDB88320");
+        s.says("The table entry for i is obtained from i by 8 steps, each of which replaces x by (x >>> 1) ^");
         for (int id = 0; id < 100; id++) {
             IntervalTree single = new IntervalTree();
             single.setRebuildPercentage(10);
