@@ -774,8 +774,8 @@ public final class IntervalTree {
     }
 
     private boolean overlapsAnother(Node node) {
-        for (Node n = tree.firstLive(); n != null && n.low <= node.high; n = n.liveAfter()) {
-            if (n != node && n.high >= node.low) {
+        for (Node n = tree.first; n != null && n.low <= node.high; n = n.after) {
+            if (!n.removed && n != node && n.high >= node.low) {
                 return true;
             }
         }

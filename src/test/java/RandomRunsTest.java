@@ -11,11 +11,22 @@ public final class RandomRunsTest {
     private static final int CALLS = 512;
     private static final String[] LOOKS = {"digest", "size", "nodeCount", "rebuildCount", "rebuiltNodes", "height"};
 
+    // A run may favour calls that mean most when they come close together.
+    private static final String[][] FAVOURITES = {
+        {},
+        {"open", "hasNext", "next", "next", "next", "removeCurrent", "removeCurrent", "restore", "insert", "remove"},
+        {"save", "load", "insert", "remove", "restore", "rebuild", "setRebuildPercentage", "digest", "next", "open"},
+        {"remove", "restore", "insert", "addWeight", "scheduled", "piercingPoint", "deepestPoint", "covered"},
+        {"addRangeFilter", "addHeavierFilter", "addCombinedFilter", "accepts", "matchCount", "addWeight", "remove"},
+        {"remove", "restore", "parent", "child", "isRed", "subtreeSize", "subtreeHigh", "subtreeWeight", "digest"},
+    };
+
     private final Random random;
     private final IntervalTree tree = new IntervalTree();
     private final Model model = new Model();
     private final int span;
     private final boolean growing;
+    private final String[] favourites;
     private final List<String> log = new ArrayList<>();
     private int insertions = 0;
 
@@ -24,6 +35,7 @@ public final class RandomRunsTest {
         int[] spans = {3, 10, 40, 300, 1000};
         span = spans[random.nextInt(spans.length)];
         growing = random.nextInt(3) == 0;
+        favourites = FAVOURITES[random.nextInt(FAVOURITES.length)];
     }
 
     private static Method[] face() {
@@ -144,6 +156,9 @@ public final class RandomRunsTest {
     }
 
     private Method chosen(Method[] face) {
+        if (favourites.length > 0 && random.nextInt(2) == 0) {
+            return method(face, favourites[random.nextInt(favourites.length)]);
+        }
         Method m = face[random.nextInt(face.length)];
         boolean dull = m.getName().equals("rebuild") || m.getName().equals("load") || m.getName().equals("save")
                 || m.getName().startsWith("add") && m.getName().endsWith("Filter") || m.getName().equals("parseFilter");
